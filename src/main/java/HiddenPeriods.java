@@ -420,7 +420,7 @@ public final class HiddenPeriods {
             case 4:
                 return telling.explained(state);
             case 5:
-                return state.windowPlaces() - telling.placesTold(state);
+                return telling.placesToldBy(state, NONE);
             case 6:
                 return state.commonSign();
             case 7:
@@ -553,6 +553,12 @@ public final class HiddenPeriods {
     private static void lay(int[] cells, int index, int value) {
         if (index >= 0 && index < cells.length) {
             cells[index] = value;
+        }
+    }
+
+    private static void raise(int[] cells, int index) {
+        if (index >= 0 && index < cells.length) {
+            cells[index]++;
         }
     }
 
@@ -738,7 +744,7 @@ public final class HiddenPeriods {
             int end = start + places;
             for (int place = start; place < end; place++) {
                 int index = classOf(place, tenths, phase) * SIGNS + current.signAt(place);
-                lay(cells, index, cellAt(cells, index) + 1);
+                raise(cells, index);
             }
         }
 
@@ -850,6 +856,7 @@ public final class HiddenPeriods {
             return places;
         }
 
+        // With NONE: the places that no period tells.
         int placesToldBy(State current, int number) {
             int start = current.windowStart();
             int end = start + current.windowPlaces();
@@ -860,10 +867,6 @@ public final class HiddenPeriods {
                 }
             }
             return places;
-        }
-
-        int placesTold(State current) {
-            return current.windowPlaces() - placesToldBy(current, NONE);
         }
 
         int longestStretch(State current) {

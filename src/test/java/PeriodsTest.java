@@ -8,6 +8,7 @@ public final class PeriodsTest {
         findRefused();
         mend();
         mendTogether();
+        mendLooksAhead();
         mendInWindow();
         mendNothing();
         set();
@@ -128,12 +129,9 @@ public final class PeriodsTest {
         Checks.same("the row is as it was", Checks.row(x), "abcdabcdabddabcd");
     }
 
-    // A count that went on with the changes would find "b" in the class 0 of the period 1.
     private static void mendTogether() {
         HiddenPeriods x = Checks.rowOf("aabbabab");
         x.set(2, 60);
-        x.keep(80, 0);
-        x.drop(0);
         x.keep(40, 0);
         x.keep(20, 0);
         // The classes of 40 tenths: a a, a b, b a, b b; those of 20 tenths: a b a a, a b b b.
@@ -142,6 +140,18 @@ public final class PeriodsTest {
         Checks.same("told(2, 1)", x.told(2, 1), 1);
         Checks.same("mend()", x.mend(), 2);
         Checks.same("the row", Checks.row(x), "abababab");
+    }
+
+    // Once the place 0 is "a", 4 of 5 places are, and 10 tenths would tell the place 1; at first 3 of 5 are too few.
+    private static void mendLooksAhead() {
+        HiddenPeriods x = Checks.rowOf("bbaaa");
+        x.set(2, 66);
+        x.keep(20, 0);
+        x.keep(10, 0);
+        Checks.same("mend()", x.mend(), 1);
+        Checks.same("the row", Checks.row(x), "abaaa");
+        Checks.same("mend() again", x.mend(), 1);
+        Checks.same("the row", Checks.row(x), "aaaaa");
     }
 
     private static void mendInWindow() {

@@ -108,6 +108,7 @@ public final class RowTest {
         grown("60 tenths", new HiddenPeriods(), 60, 13, 0, "abcdababcdaba");
         grown("400 tenths", new HiddenPeriods(), 400, 10, 0, "abcdabcdab");
         grown("30 tenths, behind two", Checks.rowOf("dd"), 30, 5, 0, "ddcabca");
+        grown("one sign", Checks.rowOf("d"), 20, 1, 0, "db");
         HiddenPeriods x = Checks.rowOf("cc");
         x.grow(20, 7, 0);
         Checks.same("grow saves once", x.count(9), 3);

@@ -54,6 +54,11 @@ public final class WouldBeTest {
         HiddenPeriods y = Checks.rowOf("ab");
         // 10 tenths: 4 * 1 - 1; 11 tenths: 4 * 2 - 2.
         Checks.same("best(10, 400) of two", y.best(10, 400), 11);
+        Checks.same("best(10, 11) of two", y.best(10, 11), 11);
+        // 10 tenths: 4 * 3 - 1; 31 tenths are the least that explain all: 4 * 4 - 4.
+        Checks.same("best(10, 400) of aaab", Checks.rowOf("aaab").best(10, 400), 31);
+        // 10 tenths: 4 * 4 - 1; 41 tenths are the least that explain all: 4 * 5 - 5, which is no more.
+        Checks.same("best(10, 400) of aaaab", Checks.rowOf("aaaab").best(10, 400), 10);
         HiddenPeriods one = Checks.rowOf("c");
         Checks.same("best(10, 400) of one", one.best(10, 400), 10);
         Checks.same("best(11, 400) of one", one.best(11, 400), 11);
@@ -110,6 +115,8 @@ public final class WouldBeTest {
         Checks.window(x, 0, 2);
         Checks.same("bestWindow(20, 6) is of the whole row", x.bestWindow(20, 6), 4);
         Checks.same("bestWindow(10, 1) of none", new HiddenPeriods().bestWindow(10, 1), HiddenPeriods.NONE);
+        // 25 tenths from the places 0 and 1 on: classes 0 1 2 0, with a b a c, and 1 2 0 1, with b a c b.
+        Checks.same("bestWindow(25, 4)", Checks.rowOf("abacb").bestWindow(25, 4), 1);
         // The last window is one of them.
         Checks.same("bestWindow(10, 3)", Checks.rowOf("abcddd").bestWindow(10, 3), 3);
         Checks.same("setting(1) stays", x.setting(1), 2);
@@ -139,6 +146,8 @@ public final class WouldBeTest {
         Checks.same("share() of a window", x.share(), 1.0);
         x.set(0, 3);
         Checks.same("share() of an empty window", x.share(), 1.0);
+        HiddenPeriods y = Checks.rowOf("a");
+        Checks.same("share() of one place without periods", y.share(), 0.0);
     }
 
     private static void digestOfNew() {
@@ -170,7 +179,16 @@ public final class WouldBeTest {
         Checks.same("digest() of a window and a text", x.digest(), Model.digestByLooks(x, "a(b!"));
         x.cut(101);
         Checks.same("digest() of 19 signs", x.digest(), Model.digestByLooks(x, "a(b!"));
+        grownDigest(59);
+        grownDigest(60);
+        grownDigest(61);
         x.cut(13);
         Checks.same("digest() of an empty window", x.digest(), Model.digestByLooks(x, "a(b!"));
+    }
+
+    private static void grownDigest(int tenths) {
+        HiddenPeriods x = new HiddenPeriods();
+        x.grow(tenths, 240, 0);
+        Checks.same("digest() of what grew by " + tenths, x.digest(), Model.digestByLooks(x, ""));
     }
 }
