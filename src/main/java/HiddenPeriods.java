@@ -544,7 +544,7 @@ public final class HiddenPeriods {
         return (tenths + PLACE_TENTHS - 1) / PLACE_TENTHS;
     }
 
-    // ---- arrays; every index is looked at here before it is used
+    // ---- arrays; an index outside of them is answered with NONE, or lays nothing
 
     private static int cellAt(int[] cells, int index) {
         return index >= 0 && index < cells.length ? cells[index] : NONE;
@@ -553,12 +553,6 @@ public final class HiddenPeriods {
     private static void lay(int[] cells, int index, int value) {
         if (index >= 0 && index < cells.length) {
             cells[index] = value;
-        }
-    }
-
-    private static void raise(int[] cells, int index) {
-        if (index >= 0 && index < cells.length) {
-            cells[index]++;
         }
     }
 
@@ -593,7 +587,7 @@ public final class HiddenPeriods {
         }
 
         int signAt(int place) {
-            return hasPlace(place) ? cellAt(row, place) : NONE;
+            return place >= 0 && place < length && place < row.length ? row[place] : NONE;
         }
 
         void changeSign(int place, int newSign) {
@@ -744,12 +738,15 @@ public final class HiddenPeriods {
             int end = start + places;
             for (int place = start; place < end; place++) {
                 int index = classOf(place, tenths, phase) * SIGNS + current.signAt(place);
-                raise(cells, index);
+                if (index >= 0 && index < cells.length) {
+                    cells[index]++;
+                }
             }
         }
 
         int countOf(int group, int someSign) {
-            return cellAt(cells, group * SIGNS + someSign);
+            int index = group * SIGNS + someSign;
+            return index >= 0 && index < cells.length ? cells[index] : NONE;
         }
 
         int lookedAt(int group, int someSign) {
@@ -760,9 +757,10 @@ public final class HiddenPeriods {
             int found = NONE;
             int most = 0;
             for (int s = 0; s < SIGNS; s++) {
-                if (countOf(group, s) > most) {
+                int times = countOf(group, s);
+                if (times > most) {
                     found = s;
-                    most = countOf(group, s);
+                    most = times;
                 }
             }
             return found;
@@ -794,7 +792,10 @@ public final class HiddenPeriods {
         private int greatestOf(int group) {
             int most = 0;
             for (int s = 0; s < SIGNS; s++) {
-                most = Math.max(most, countOf(group, s));
+                int times = countOf(group, s);
+                if (times > most) {
+                    most = times;
+                }
             }
             return most;
         }
