@@ -17,7 +17,6 @@ public final class HiddenPeriods {
 
     private static final int FIRST_PLACE = 0;
     private static final int WINDOW_PLACES = 1;
-    private static final int HUNDREDTHS = 2;
     private static final int SETTINGS = 3;
 
     private static final int NUMBERS = 10;
@@ -123,11 +122,10 @@ public final class HiddenPeriods {
         history.save(state);
         // The telling stays as it was read here, so no change has a part in the next one.
         telling.read(state, counts);
-        int start = state.windowStart();
-        int end = start + state.windowPlaces();
+        int end = state.windowEnd();
         int mended = 0;
-        for (int place = start; place < end; place++) {
-            int sign = telling.signFor(state, place);
+        for (int place = state.windowStart(); place < end; place++) {
+            int sign = telling.signAt(place);
             if (sign != NONE && sign != state.signAt(place)) {
                 state.changeSign(place, sign);
                 mended++;
@@ -452,15 +450,15 @@ public final class HiddenPeriods {
         if (what == 4) {
             return counts.explained() - state.timesInWindow(state.commonSign());
         }
-        return counts.strongClasses(state.settingAt(HUNDREDTHS));
+        return counts.strongClasses(state.hundredths);
     }
 
     private int toldNumber(int place, int what) {
         if (what == 0) {
-            return telling.signFor(state, place);
+            return telling.signAt(place);
         }
         if (what == 1) {
-            return telling.tellerOf(state, place);
+            return telling.tellerAt(place);
         }
         return telling.isExplained(state, place) ? 1 : 0;
     }
@@ -565,21 +563,21 @@ public final class HiddenPeriods {
         private final int[] row = new int[MOST_PLACES];
         private final int[] tenths = new int[MOST_PERIODS];
         private final int[] phases = new int[MOST_PERIODS];
-        private final int[] settings = new int[SETTINGS];
         private int length;
         private int kept;
-
-        State() {
-            lay(settings, HUNDREDTHS, 75);
-        }
+        private int firstPlace;
+        private int mostPlaces;
+        private int hundredths = 75;
 
         void become(State other) {
             copyCells(other.row, row);
             copyCells(other.tenths, tenths);
             copyCells(other.phases, phases);
-            copyCells(other.settings, settings);
             length = other.length;
             kept = other.kept;
+            firstPlace = other.firstPlace;
+            mostPlaces = other.mostPlaces;
+            hundredths = other.hundredths;
         }
 
         boolean hasPlace(int place) {
@@ -635,34 +633,41 @@ public final class HiddenPeriods {
         }
 
         int settingAt(int index) {
-            return cellAt(settings, index);
+            if (index == FIRST_PLACE) {
+                return firstPlace;
+            }
+            return index == WINDOW_PLACES ? mostPlaces : hundredths;
         }
 
         void changeSetting(int index, int value) {
-            lay(settings, index, value);
+            if (index == FIRST_PLACE) {
+                firstPlace = value;
+            } else if (index == WINDOW_PLACES) {
+                mostPlaces = value;
+            } else {
+                hundredths = value;
+            }
         }
 
         int windowStart() {
-            return settingAt(WINDOW_PLACES) > 0 ? settingAt(FIRST_PLACE) : 0;
+            return mostPlaces > 0 ? firstPlace : 0;
         }
 
         int windowPlaces() {
-            int places = settingAt(WINDOW_PLACES);
-            if (places == 0) {
+            if (mostPlaces == 0) {
                 return length;
             }
-            return Math.max(0, Math.min(places, length - settingAt(FIRST_PLACE)));
+            return Math.max(0, Math.min(mostPlaces, length - firstPlace));
         }
 
-        boolean isInWindow(int place) {
-            return place >= windowStart() && place < windowStart() + windowPlaces();
+        int windowEnd() {
+            return windowStart() + windowPlaces();
         }
 
         int timesInWindow(int someSign) {
-            int start = windowStart();
-            int end = start + windowPlaces();
+            int end = windowEnd();
             int times = 0;
-            for (int place = start; place < end; place++) {
+            for (int place = windowStart(); place < end; place++) {
                 if (signAt(place) == someSign) {
                     times++;
                 }
@@ -809,47 +814,59 @@ public final class HiddenPeriods {
         }
     }
 
-    /** What the kept periods tell together, as they were when they were read. */
+    /** What the kept periods tell together of each place, as they were when they were read. */
     private static final class Telling {
-        private final int[] strongSigns = new int[MOST_PERIODS * MOST_CLASSES];
+        private final int[] strongSigns = new int[MOST_CLASSES];
+        private final int[] tellers = new int[MOST_PLACES];
+        private final int[] signs = new int[MOST_PLACES];
 
         void read(State current, Counts counts) {
-            int hundredths = current.settingAt(HUNDREDTHS);
+            Arrays.fill(tellers, NONE);
+            Arrays.fill(signs, NONE);
             for (int number = 0; number < current.kept; number++) {
-                counts.takeKept(current, number);
-                for (int group = 0; group < counts.classes; group++) {
-                    lay(strongSigns, number * MOST_CLASSES + group, counts.strongSignOf(group, hundredths));
+                readStrongSigns(current, counts, number);
+                tellBy(current, number);
+            }
+        }
+
+        private void readStrongSigns(State current, Counts counts, int number) {
+            counts.takeKept(current, number);
+            for (int group = 0; group < counts.classes; group++) {
+                lay(strongSigns, group, counts.strongSignOf(group, current.hundredths));
+            }
+        }
+
+        // A place that an earlier period tells is left to it.
+        private void tellBy(State current, int number) {
+            int tenths = current.tenthsAt(number);
+            int phase = current.phaseAt(number);
+            int end = current.windowEnd();
+            for (int place = current.windowStart(); place < end; place++) {
+                int told = cellAt(strongSigns, classOf(place, tenths, phase));
+                if (told != NONE && tellerAt(place) == NONE) {
+                    lay(tellers, place, number);
+                    lay(signs, place, told);
                 }
             }
         }
 
-        int tellerOf(State current, int place) {
-            if (!current.isInWindow(place)) {
-                return NONE;
-            }
-            for (int number = 0; number < current.kept; number++) {
-                if (strongSignBy(current, number, place) != NONE) {
-                    return number;
-                }
-            }
-            return NONE;
+        int tellerAt(int place) {
+            return cellAt(tellers, place);
         }
 
-        int signFor(State current, int place) {
-            int number = tellerOf(current, place);
-            return number == NONE ? NONE : strongSignBy(current, number, place);
+        int signAt(int place) {
+            return cellAt(signs, place);
         }
 
         boolean isExplained(State current, int place) {
-            int told = signFor(current, place);
+            int told = signAt(place);
             return told != NONE && told == current.signAt(place);
         }
 
         int explained(State current) {
-            int start = current.windowStart();
-            int end = start + current.windowPlaces();
+            int end = current.windowEnd();
             int places = 0;
-            for (int place = start; place < end; place++) {
+            for (int place = current.windowStart(); place < end; place++) {
                 if (isExplained(current, place)) {
                     places++;
                 }
@@ -859,11 +876,10 @@ public final class HiddenPeriods {
 
         // With NONE: the places that no period tells.
         int placesToldBy(State current, int number) {
-            int start = current.windowStart();
-            int end = start + current.windowPlaces();
+            int end = current.windowEnd();
             int places = 0;
-            for (int place = start; place < end; place++) {
-                if (tellerOf(current, place) == number) {
+            for (int place = current.windowStart(); place < end; place++) {
+                if (tellerAt(place) == number) {
                     places++;
                 }
             }
@@ -871,20 +887,14 @@ public final class HiddenPeriods {
         }
 
         int longestStretch(State current) {
-            int start = current.windowStart();
-            int end = start + current.windowPlaces();
+            int end = current.windowEnd();
             int longest = 0;
             int stretch = 0;
-            for (int place = start; place < end; place++) {
+            for (int place = current.windowStart(); place < end; place++) {
                 stretch = isExplained(current, place) ? stretch + 1 : 0;
                 longest = Math.max(longest, stretch);
             }
             return longest;
-        }
-
-        private int strongSignBy(State current, int number, int place) {
-            int group = classOf(place, current.tenthsAt(number), current.phaseAt(number));
-            return cellAt(strongSigns, number * MOST_CLASSES + group);
         }
     }
 

@@ -1,3 +1,6 @@
+import java.util.function.Consumer;
+import java.util.function.Supplier;
+
 /** What the tests have in common: they tell every answer that is not due, and end with 1 if there was one. */
 final class Checks {
     interface Call {
@@ -38,6 +41,43 @@ final class Checks {
         same("the digest behind the refused " + what, x.digest(), before);
     }
 
+    /** As refuses(), of a new object of its kind, whose saved states are looked at too: an other object tells what they are. */
+    static void refused(String what, Supplier<HiddenPeriods> made, Class<?> due, Consumer<HiddenPeriods> call) {
+        HiddenPeriods x = made.get();
+        Class<?> got = thrownBy(() -> call.accept(x));
+        tell(got == due, what + " threw " + got + ", due is " + due);
+        alikeToTheirBegins("behind the refused " + what, x, made.get());
+    }
+
+    /** The call saves one state, and undo brings back all that was before it, but the buffer. */
+    static void undoable(String what, Supplier<HiddenPeriods> made, Consumer<HiddenPeriods> call) {
+        HiddenPeriods x = made.get();
+        int saved = x.count(9);
+        call.accept(x);
+        same("saved by " + what, x.count(9), Math.min(6, saved + 1));
+        same("undo() of " + what, x.undo(), Math.min(5, saved));
+        HiddenPeriods y = made.get();
+        x.clearBuffer();
+        y.clearBuffer();
+        if (saved < 6) {
+            alikeToTheirBegins("behind undo() of " + what, x, y);
+        }
+    }
+
+    static void alikeToTheirBegins(String what, HiddenPeriods x, HiddenPeriods y) {
+        same("the digest " + what, x.digest(), y.digest());
+        for (int i = 0; i < 6 && x.count(9) > 0 && y.count(9) > 0; i++) {
+            x.undo();
+            y.undo();
+            same("the digest, " + (i + 1) + " back, " + what, x.digest(), y.digest());
+        }
+    }
+
+    /** What lies just outside of a range, and as far from it as can be. */
+    static int[] outside(int least, int most) {
+        return new int[] {least - 1, most + 1, Integer.MIN_VALUE, Integer.MAX_VALUE};
+    }
+
     static Class<?> thrownBy(Call call) {
         try {
             call.run();
@@ -45,6 +85,14 @@ final class Checks {
         } catch (Throwable thrown) {
             return thrown.getClass();
         }
+    }
+
+    static int rightOnes() {
+        return right;
+    }
+
+    static int wrongOnes() {
+        return wrong;
     }
 
     static void finish(String test) {
@@ -72,6 +120,21 @@ final class Checks {
         for (int i = 0; i < signs.length(); i++) {
             x.put(signs.charAt(i) - 'a');
         }
+        return x;
+    }
+
+    /** The row of a text, with one saved state alone. */
+    static HiddenPeriods textOf(String text) {
+        HiddenPeriods x = new HiddenPeriods();
+        type(x, text);
+        x.putAll();
+        return x;
+    }
+
+    /** A row of as many signs "a" as are asked for, with one saved state alone. */
+    static HiddenPeriods rowOfMany(int many) {
+        HiddenPeriods x = new HiddenPeriods();
+        x.grow(10, many, 0);
         return x;
     }
 
