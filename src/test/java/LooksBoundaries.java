@@ -237,7 +237,7 @@ final class LooksBoundaries {
                     x -> x.period(number, what));
             }
         }
-        Checks.refused("period(4, 0) of four", TermsBoundaries::full, Checks.INDEX, x -> x.period(4, 0));
+        Checks.refused("period(4, 0) of four", UndoBoundaries::full, Checks.INDEX, x -> x.period(4, 0));
         Checks.refused("period(1, 0) behind a drop", () -> {
             HiddenPeriods x = kept("ab", 20, 0, 30, 0);
             x.drop(1);
@@ -327,6 +327,11 @@ final class LooksBoundaries {
                 }
             }
         }
+        Checks.refused("remainder(1, 0, 0) behind a drop", () -> {
+            HiddenPeriods x = kept("ab", 20, 0, 30, 0);
+            x.drop(1);
+            return x;
+        }, Checks.INDEX, x -> x.remainder(1, 0, 0));
         // The class 2 is one of the number 1, and none of the number 0.
         Checks.refused("remainder(0, 2, 0)", () -> kept("ab", 20, 0, 30, 0), Checks.INDEX, x -> x.remainder(0, 2, 0));
         Checks.same("remainder(1, 2, 0)", kept("ab", 20, 0, 30, 0).remainder(1, 2, 0), 0);
@@ -432,7 +437,7 @@ final class LooksBoundaries {
                 Checks.refused("told(" + place + ", " + what + ")", () -> kept("abc", 10, 0), Checks.INDEX,
                     x -> x.told(place, what));
             }
-            Checks.refused("told(240, " + what + ")", TermsBoundaries::full, Checks.INDEX, x -> x.told(240, what));
+            Checks.refused("told(240, " + what + ")", UndoBoundaries::full, Checks.INDEX, x -> x.told(240, what));
         }
         Checks.refused("told(2, 0) of what is cut", () -> {
             HiddenPeriods x = kept("abc", 10, 0);
@@ -614,7 +619,7 @@ final class LooksBoundaries {
     // ---- all of them
 
     private static void looksChangeNothing() {
-        Supplier<HiddenPeriods> full = TermsBoundaries::full;
+        Supplier<HiddenPeriods> full = UndoBoundaries::full;
         HiddenPeriods x = full.get();
         x.sign(3);
         x.sign(240);

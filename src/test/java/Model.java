@@ -451,7 +451,7 @@ final class Model {
         for (int setting = 0; setting <= 2; setting++) {
             values.add((long) x.setting(setting));
         }
-        for (int place = 0; x.sign(place) != -1; place++) {
+        for (int place = 0; place < x.count(0); place++) {
             values.add((long) x.sign(place));
         }
         for (int number = 0; number < x.count(3); number++) {

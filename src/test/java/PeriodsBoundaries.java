@@ -153,6 +153,11 @@ final class PeriodsBoundaries {
         x.drop(0);
         x.drop(0);
         keptAre(x);
+        HiddenPeriods told = kept(60, 0);
+        Checks.same("explained before the drop", told.count(4), 6);
+        told.drop(0);
+        Checks.same("explained behind the drop", told.count(4), 0);
+        Checks.same("told(0, 1) behind the drop", told.told(0, 1), -1);
         Checks.undoable("drop of the only one", () -> kept(20, 1), y -> y.drop(0));
         for (int number = 0; number < 4; number++) {
             int each = number;
@@ -234,9 +239,12 @@ final class PeriodsBoundaries {
 
     private static void findOutOfRange() {
         for (int from : Checks.outside(10, 400)) {
-            Checks.refused("find(" + from + ", 400)", () -> kept(), Checks.ARGUMENT, x -> x.find(from, 400));
+            // A broken program that takes the least number would look for very long, if to were not so low too.
+            int to = from < 0 ? from : 400;
+            String what = "find(" + from + ", " + to + ")";
+            Checks.refused(what, () -> kept(), Checks.ARGUMENT, x -> x.find(from, to));
+            Checks.refused(what + " behind four", FOUR_KEPT, Checks.ARGUMENT, x -> x.find(from, to));
             Checks.refused("find(" + from + ", " + from + ")", () -> kept(), Checks.ARGUMENT, x -> x.find(from, from));
-            Checks.refused("find(" + from + ", 400) behind four", FOUR_KEPT, Checks.ARGUMENT, x -> x.find(from, 400));
         }
         for (int to : Checks.outside(30, 400)) {
             Checks.refused("find(30, " + to + ")", () -> kept(), Checks.ARGUMENT, x -> x.find(30, to));

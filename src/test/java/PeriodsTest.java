@@ -98,7 +98,7 @@ public final class PeriodsTest {
 
     private static void findRefused() {
         HiddenPeriods x = Checks.rowOf("abcabcabcabc");
-        for (int from : new int[] {9, 401, -1, 0, Integer.MIN_VALUE, Integer.MAX_VALUE}) {
+        for (int from : new int[] {9, 401, -1, 0, -400, Integer.MAX_VALUE}) {
             Checks.refuses(x, "find(" + from + ", 400)", Checks.ARGUMENT, () -> x.find(from, 400));
         }
         for (int to : new int[] {29, 401, -1, Integer.MIN_VALUE, Integer.MAX_VALUE}) {

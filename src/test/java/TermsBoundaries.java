@@ -1,7 +1,6 @@
-import java.util.function.Consumer;
 import java.util.function.Supplier;
 
-/** The boundaries of the document's terms: the row, the window, periods, findings, settings, texts, undo, exceptions. */
+/** The boundaries of the document's terms: the row, the window, periods, findings, settings and texts. */
 final class TermsBoundaries {
     private TermsBoundaries() {
     }
@@ -64,19 +63,6 @@ final class TermsBoundaries {
         the.sentence("The buffer is read from left to right;", TermsBoundaries::leftToRight);
         the.sentence("a character is a syntax error if no signs as a text, of any length, begin with the characters before it "
             + "and this character.", TermsBoundaries::ofAnyLength);
-
-        the.of("Undo");
-        the.sentence("Each method that is marked \"undoable\" and does not throw an exception saves the state from before it",
-            TermsBoundaries::savedBefore);
-        the.sentence("(also if it changes nothing)", TermsBoundaries::savedWithoutAChange);
-        the.sentence("all, but the buffer and the saved states.", TermsBoundaries::allButTheBuffer);
-        the.sentence("At most 6 states are saved; the oldest one is dropped first.", TermsBoundaries::sixStates);
-
-        the.of("Exceptions");
-        the.sentence("A call that throws an exception changes nothing.", TermsBoundaries::refusedCallsChangeNothing);
-        the.sentence("If several exceptions apply, the one that is named first in the throws clause is thrown.",
-            TermsBoundaries::theFirstException);
-        the.sentence("`NONE = -1`: There is nothing to return.", TermsBoundaries::none);
     }
 
     // ---- what it is, terms
@@ -583,36 +569,30 @@ final class TermsBoundaries {
 
     // ---- input text
 
-    static HiddenPeriods typed(String text) {
-        HiddenPeriods x = new HiddenPeriods();
-        Checks.type(x, text);
-        return x;
-    }
-
     private static void fullBuffer() {
         HiddenPeriods x = new HiddenPeriods();
         for (int i = 1; i <= 60; i++) {
             Checks.same("append, the " + i + "th", x.append('a'), i);
         }
         Checks.same("putAll() of 60", x.putAll(), 60);
-        Checks.refused("a 61st character", () -> typed("a".repeat(60)), Checks.STATE, y -> y.append('a'));
-        Checks.refused("a 61st character, though 60 are wrong", () -> typed("!".repeat(60)), Checks.STATE,
+        Checks.refused("a 61st character", () -> Checks.typed("a".repeat(60)), Checks.STATE, y -> y.append('a'));
+        Checks.refused("a 61st character, though 60 are wrong", () -> Checks.typed("!".repeat(60)), Checks.STATE,
             y -> y.append('a'));
-        HiddenPeriods z = typed("a".repeat(60));
+        HiddenPeriods z = Checks.typed("a".repeat(60));
         z.clearBuffer();
         Checks.same("append behind clearBuffer()", z.append('b'), 1);
     }
 
     private static void textIs(String text, String due) {
-        HiddenPeriods x = typed(text);
+        HiddenPeriods x = Checks.typed(text);
         Checks.same("firstError() of " + text, x.firstError(), text.length());
         Checks.same("putAll() of " + text, x.putAll(), due.length());
         Checks.same("the row by " + text, Checks.row(x), due);
     }
 
     private static void isNoText(String text, int error) {
-        Checks.same("firstError() of " + text, typed(text).firstError(), error);
-        Checks.refused("putAll() of " + text, () -> typed(text), Checks.ARGUMENT, x -> x.putAll());
+        Checks.same("firstError() of " + text, Checks.typed(text).firstError(), error);
+        Checks.refused("putAll() of " + text, () -> Checks.typed(text), Checks.ARGUMENT, x -> x.putAll());
     }
 
     private static void parts() {
@@ -656,10 +636,10 @@ final class TermsBoundaries {
 
     private static void leftToRight() {
         textIs("(ab)2c(cd)3", "ababccdcdcd");
-        Checks.same("the first of two errors", typed("ab!c!").firstError(), 2);
-        Checks.same("an error at the begin", typed("!a").firstError(), 0);
-        Checks.same("an error at the end", typed("aaa!").firstError(), 3);
-        Checks.same("an error behind what is no error by itself", typed("(ab))2").firstError(), 4);
+        Checks.same("the first of two errors", Checks.typed("ab!c!").firstError(), 2);
+        Checks.same("an error at the begin", Checks.typed("!a").firstError(), 0);
+        Checks.same("an error at the end", Checks.typed("aaa!").firstError(), 3);
+        Checks.same("an error behind what is no error by itself", Checks.typed("(ab))2").firstError(), 4);
     }
 
     private static void ofAnyLength() {
@@ -669,201 +649,6 @@ final class TermsBoundaries {
         isNoText("(" + "a".repeat(58) + ")", 60);
         isNoText("a".repeat(59) + "!", 59);
         // 9 times 57 signs have no room in a row, but are signs as a text.
-        Checks.same("firstError() of many signs", typed("(" + "a".repeat(57) + ")9").firstError(), 60);
-    }
-
-    // ---- undo
-
-    private static HiddenPeriods ofAll() {
-        HiddenPeriods x = Checks.textOf("abcabdabaabc");
-        x.keep(30, 0);
-        x.set(2, 50);
-        Checks.type(x, "(bd)2");
-        return x;
-    }
-
-    private static void savedBefore() {
-        Checks.undoable("put", TermsBoundaries::ofAll, x -> x.put(2));
-        Checks.undoable("change", TermsBoundaries::ofAll, x -> x.change(11, 0));
-        Checks.undoable("cut", TermsBoundaries::ofAll, x -> x.cut(7));
-        Checks.undoable("grow", TermsBoundaries::ofAll, x -> x.grow(25, 228, 3));
-        Checks.undoable("keep", TermsBoundaries::ofAll, x -> x.keep(20, 3));
-        Checks.undoable("drop", TermsBoundaries::ofAll, x -> x.drop(0));
-        Checks.undoable("find", TermsBoundaries::ofAll, x -> x.find(40, 60));
-        Checks.undoable("mend", TermsBoundaries::ofAll, x -> Checks.same("mend()", x.mend(), 2));
-        Checks.undoable("set", TermsBoundaries::ofAll, x -> x.set(1, 5));
-        Checks.undoable("putAll", TermsBoundaries::ofAll, x -> x.putAll());
-        savesNothing("append", x -> x.append('a'));
-        savesNothing("clearBuffer", x -> x.clearBuffer());
-        savesNothing("firstError", x -> x.firstError());
-        savesNothing("explains", x -> x.explains(20, 0));
-        savesNothing("best", x -> x.best(20, 60));
-        savesNothing("digest", x -> x.digest());
-    }
-
-    private static void savesNothing(String what, Consumer<HiddenPeriods> call) {
-        HiddenPeriods x = ofAll();
-        call.accept(x);
-        Checks.same("saved states behind " + what, x.count(9), 3);
-        x.undo();
-        Checks.same("setting(2) behind " + what + " and undo()", x.setting(2), 75);
-    }
-
-    private static void savedWithoutAChange() {
-        Checks.undoable("cut of an empty row", HiddenPeriods::new, x -> x.cut(1));
-        Checks.undoable("mend of an empty row", HiddenPeriods::new, x -> x.mend());
-        Checks.undoable("set to what it is", HiddenPeriods::new, x -> x.set(2, 75));
-        Checks.undoable("change to what it is", TermsBoundaries::ofAll, x -> x.change(0, 0));
-        Checks.undoable("mend of what is explained", () -> {
-            HiddenPeriods x = ofAll();
-            x.mend();
-            return x;
-        }, x -> Checks.same("a second mend()", x.mend(), 0));
-    }
-
-    private static void allButTheBuffer() {
-        HiddenPeriods x = Checks.textOf("abcabd");
-        Checks.type(x, "ab");
-        x.keep(30, 7);
-        x.set(0, 2);
-        x.set(1, 3);
-        x.set(2, 60);
-        long before = x.digest();
-        x.put(1);
-        Checks.same("undo()", x.undo(), 5);
-        Checks.same("the digest behind undo() of put", x.digest(), before);
-        x.undo();
-        x.undo();
-        x.undo();
-        x.undo();
-        Checks.same("kept", x.count(3), 0);
-        for (int setting = 0; setting < 3; setting++) {
-            Checks.same("setting(" + setting + ")", x.setting(setting), setting == 2 ? 75 : 0);
-        }
-        Checks.same("the row", Checks.row(x), "abcabd");
-        Checks.same("saved", x.count(9), 1);
-        Checks.same("the length of the buffer", x.clearBuffer(), 2);
-        // putAll clears the buffer, and undo does not fill it again.
-        HiddenPeriods y = typed("abc");
-        y.putAll();
-        y.append('d');
-        y.undo();
-        Checks.same("the row", Checks.row(y), "");
-        Checks.same("the length of the buffer", y.clearBuffer(), 1);
-    }
-
-    private static void sixStates() {
-        for (int calls : new int[] {5, 6, 7, 8, 12, 13, 25}) {
-            HiddenPeriods x = new HiddenPeriods();
-            for (int i = 1; i <= calls; i++) {
-                x.put(i % 4);
-                Checks.same("saved behind " + i + " calls", x.count(9), Math.min(6, i));
-            }
-            for (int left = Math.min(6, calls) - 1; left >= 0; left--) {
-                Checks.same("undo()", x.undo(), left);
-                Checks.same("signs", x.count(0), left + Math.max(0, calls - 6));
-                int last = x.count(0) - 1;
-                Checks.same("the last one", x.sign(Math.max(0, last)), last < 0 ? -1 : x.count(0) % 4);
-            }
-            Checks.refuses(x, "undo() of none", Checks.STATE, () -> x.undo());
-        }
-        HiddenPeriods x = Checks.rowOf("abcdabcd");
-        x.undo();
-        x.undo();
-        x.put(3);
-        x.put(3);
-        x.put(3);
-        Checks.same("saved, 8 less 2 and 3 more", x.count(9), 6);
-        for (int left = 5; left >= 0; left--) {
-            x.undo();
-        }
-        Checks.same("the row", Checks.row(x), "abc");
-    }
-
-    // ---- exceptions
-
-    /** All of it is full: the row, the periods, the buffer, the saved states, whose oldest one would be dropped next. */
-    static HiddenPeriods full() {
-        HiddenPeriods x = new HiddenPeriods();
-        x.grow(30, 239, 7);
-        x.keep(30, 0);
-        x.keep(20, 0);
-        x.keep(400, 399);
-        x.set(2, 33);
-        x.keep(10, 9);
-        x.put(3);
-        Checks.type(x, "(ab)2" + "c".repeat(55));
-        return x;
-    }
-
-    private static void refusedCallsChangeNothing() {
-        Supplier<HiddenPeriods> full = TermsBoundaries::full;
-        Checks.same("saved states", full().count(9), 6);
-        Checks.refused("put(0)", full, Checks.STATE, x -> x.put(0));
-        Checks.refused("put(4)", full, Checks.ARGUMENT, x -> x.put(4));
-        Checks.refused("change(240, 0)", full, Checks.INDEX, x -> x.change(240, 0));
-        Checks.refused("change(0, 4)", full, Checks.ARGUMENT, x -> x.change(0, 4));
-        Checks.refused("cut(0)", full, Checks.ARGUMENT, x -> x.cut(0));
-        Checks.refused("cut(241)", full, Checks.ARGUMENT, x -> x.cut(241));
-        Checks.refused("grow(20, 1, 0)", full, Checks.STATE, x -> x.grow(20, 1, 0));
-        Checks.refused("grow(9, 1, 0)", full, Checks.ARGUMENT, x -> x.grow(9, 1, 0));
-        Checks.refused("keep(11, 0)", full, Checks.STATE, x -> x.keep(11, 0));
-        Checks.refused("keep(30, 0)", full, Checks.STATE, x -> x.keep(30, 0));
-        Checks.refused("keep(11, 11)", full, Checks.ARGUMENT, x -> x.keep(11, 11));
-        Checks.refused("drop(4)", full, Checks.INDEX, x -> x.drop(4));
-        Checks.refused("drop(-1)", full, Checks.INDEX, x -> x.drop(-1));
-        Checks.refused("find(40, 60)", full, Checks.STATE, x -> x.find(40, 60));
-        Checks.refused("find(60, 40)", full, Checks.ARGUMENT, x -> x.find(60, 40));
-        Checks.refused("set(3, 1)", full, Checks.INDEX, x -> x.set(3, 1));
-        Checks.refused("set(0, 240)", full, Checks.ARGUMENT, x -> x.set(0, 240));
-        Checks.refused("append(97)", full, Checks.STATE, x -> x.append(97));
-        Checks.refused("append(32)", full, Checks.ARGUMENT, x -> x.append(32));
-        Checks.refused("putAll()", full, Checks.STATE, x -> x.putAll());
-        Checks.refused("sign(-1)", full, Checks.ARGUMENT, x -> x.sign(-1));
-        Checks.refused("period(4, 0)", full, Checks.INDEX, x -> x.period(4, 0));
-        Checks.refused("remainder(0, 3, 0)", full, Checks.INDEX, x -> x.remainder(0, 3, 0));
-        Checks.refused("told(240, 0)", full, Checks.INDEX, x -> x.told(240, 0));
-        Checks.refused("count(10)", full, Checks.ARGUMENT, x -> x.count(10));
-        Checks.refused("setting(3)", full, Checks.INDEX, x -> x.setting(3));
-        Checks.refused("best(60, 40)", full, Checks.ARGUMENT, x -> x.best(60, 40));
-        Checks.refused("undo()", () -> typed("ab"), Checks.STATE, x -> x.undo());
-        Checks.refused("putAll() of no text", () -> {
-            HiddenPeriods x = ofAll();
-            x.append('(');
-            return x;
-        }, Checks.ARGUMENT, x -> x.putAll());
-    }
-
-    private static void theFirstException() {
-        Supplier<HiddenPeriods> full = TermsBoundaries::full;
-        Checks.refused("put: sign and row", full, Checks.ARGUMENT, x -> x.put(-1));
-        Checks.refused("change: place and sign", full, Checks.INDEX, x -> x.change(-1, 4));
-        Checks.refused("grow: tenths and row", full, Checks.ARGUMENT, x -> x.grow(401, 240, 0));
-        Checks.refused("grow: many and row", full, Checks.ARGUMENT, x -> x.grow(20, 241, 0));
-        Checks.refused("grow: wrong and row", full, Checks.ARGUMENT, x -> x.grow(20, 240, 241));
-        Checks.refused("keep: tenths and four", full, Checks.ARGUMENT, x -> x.keep(9, 0));
-        Checks.refused("keep: phase and four", full, Checks.ARGUMENT, x -> x.keep(30, 30));
-        Checks.refused("find: from and four", full, Checks.ARGUMENT, x -> x.find(9, 60));
-        Checks.refused("find: to and four", full, Checks.ARGUMENT, x -> x.find(30, 29));
-        Checks.refused("set: setting and value", full, Checks.INDEX, x -> x.set(-1, -1));
-        Checks.refused("append: code and buffer", full, Checks.ARGUMENT, x -> x.append(127));
-        Checks.refused("putAll: text and row", () -> {
-            HiddenPeriods x = full();
-            x.clearBuffer();
-            Checks.type(x, "ab(");
-            return x;
-        }, Checks.ARGUMENT, x -> x.putAll());
-        Checks.refused("period: period and what", full, Checks.INDEX, x -> x.period(4, 7));
-        Checks.refused("remainder: period, class and sign", full, Checks.INDEX, x -> x.remainder(4, 99, 5));
-        Checks.refused("remainder: class and sign", full, Checks.INDEX, x -> x.remainder(0, 3, 5));
-        Checks.refused("told: place and what", full, Checks.INDEX, x -> x.told(240, 3));
-    }
-
-    private static void none() {
-        HiddenPeriods x = new HiddenPeriods();
-        Checks.same("NONE", HiddenPeriods.NONE, -1);
-        Checks.same("sign(0)", x.sign(0), HiddenPeriods.NONE);
-        Checks.same("count(6)", x.count(6), HiddenPeriods.NONE);
-        Checks.same("bestWindow(10, 1)", x.bestWindow(10, 1), HiddenPeriods.NONE);
+        Checks.same("firstError() of many signs", Checks.typed("(" + "a".repeat(57) + ")9").firstError(), 60);
     }
 }

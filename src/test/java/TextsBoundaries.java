@@ -38,7 +38,7 @@ final class TextsBoundaries {
     }
 
     private static Supplier<HiddenPeriods> buffer(String text) {
-        return () -> TermsBoundaries.typed(text);
+        return () -> Checks.typed(text);
     }
 
     private static Supplier<HiddenPeriods> rowAndBuffer(int many, String text) {
@@ -58,7 +58,7 @@ final class TextsBoundaries {
         x.append('a');
         x.putAll();
         Checks.same("the row of what was appended", Checks.row(x), "bda");
-        HiddenPeriods y = TermsBoundaries.typed("a");
+        HiddenPeriods y = Checks.typed("a");
         long hash = y.digest();
         y.append('~');
         // The length before "a" is one more, so 31 more behind "a"; then comes the new one.
@@ -90,7 +90,7 @@ final class TextsBoundaries {
     }
 
     private static void appendFull() {
-        Checks.same("append to 59", TermsBoundaries.typed("a".repeat(59)).append('a'), 60);
+        Checks.same("append to 59", Checks.typed("a".repeat(59)).append('a'), 60);
         Checks.refused("append to 60", buffer("a".repeat(60)), Checks.STATE, x -> x.append('a'));
         Checks.refused("append to 60 wrong ones", buffer("~".repeat(60)), Checks.STATE, x -> x.append('~'));
     }
@@ -98,14 +98,14 @@ final class TextsBoundaries {
     // ---- clearBuffer
 
     private static void clear() {
-        HiddenPeriods x = TermsBoundaries.typed("(d)9");
+        HiddenPeriods x = Checks.typed("(d)9");
         x.clearBuffer();
         Checks.same("firstError() behind it", x.firstError(), 0);
         Checks.same("digest() behind it", x.digest(), new HiddenPeriods().digest());
         x.append('c');
         Checks.same("putAll() of what comes then", x.putAll(), 1);
         Checks.same("the row", Checks.row(x), "c");
-        HiddenPeriods full = TermsBoundaries.typed("a".repeat(60));
+        HiddenPeriods full = Checks.typed("a".repeat(60));
         full.clearBuffer();
         Checks.same("append behind it", full.append('a'), 1);
         Checks.same("it saves nothing", full.count(9), 0);
@@ -113,8 +113,8 @@ final class TextsBoundaries {
 
     private static void clearReturns() {
         Checks.same("clearBuffer() of none", new HiddenPeriods().clearBuffer(), 0);
-        Checks.same("clearBuffer() of one", TermsBoundaries.typed("!").clearBuffer(), 1);
-        HiddenPeriods x = TermsBoundaries.typed("a".repeat(60));
+        Checks.same("clearBuffer() of one", Checks.typed("!").clearBuffer(), 1);
+        HiddenPeriods x = Checks.typed("a".repeat(60));
         Checks.same("clearBuffer() of 60", x.clearBuffer(), 60);
         Checks.same("clearBuffer() again", x.clearBuffer(), 0);
     }
@@ -122,7 +122,7 @@ final class TextsBoundaries {
     // ---- firstError
 
     private static void errorAt(String text, int due) {
-        HiddenPeriods x = TermsBoundaries.typed(text);
+        HiddenPeriods x = Checks.typed(text);
         long before = x.digest();
         Checks.same("firstError() of " + text, x.firstError(), due);
         Checks.same("the digest behind firstError() of " + text, x.digest(), before);

@@ -202,6 +202,8 @@ final class WouldBeBoundaries {
         Checks.same("best(10, 400) of aaab", Checks.textOf("aaab").best(10, 400), 31);
         // 10 tenths: 4 * 5 - 1; 51 tenths are the least that explain all: 4 * 6 - 6, which is one less.
         Checks.same("best(10, 400) of aaaaab", Checks.textOf("aaaaab").best(10, 400), 10);
+        // 20 tenths: 4 * 5 - 2; 51 tenths: 4 * 6 - 6, as a part of a class is one.
+        Checks.same("best(20, 100) of aaaaab", Checks.textOf("aaaaab").best(20, 100), 20);
         Checks.same("best(20, 30) of none: 2 classes are least", new HiddenPeriods().best(20, 30), 20);
         Checks.same("best(30, 35) of none: 3 classes are least", new HiddenPeriods().best(30, 35), 30);
     }
@@ -218,7 +220,9 @@ final class WouldBeBoundaries {
     private static void bestOutOfRange() {
         for (Supplier<HiddenPeriods> made : List.of(SIX, (Supplier<HiddenPeriods>) HiddenPeriods::new)) {
             for (int from : Checks.outside(10, 400)) {
-                Checks.refused("best(" + from + ", 400)", made, Checks.ARGUMENT, x -> x.best(from, 400));
+                // A broken program that takes the least number would look for very long, if to were not so low too.
+                int to = from < 0 ? from : 400;
+                Checks.refused("best(" + from + ", " + to + ")", made, Checks.ARGUMENT, x -> x.best(from, to));
                 Checks.refused("best(" + from + ", " + from + ")", made, Checks.ARGUMENT, x -> x.best(from, from));
             }
             for (int to : Checks.outside(30, 400)) {
@@ -318,6 +322,8 @@ final class WouldBeBoundaries {
         Checks.same("explains(25, 0) of the one before it", x.explains(25, 0), 3);
         // 15 tenths have the classes 0 1 0 at the places 0 to 2, and again and again; with the phase 5, 0 0 1.
         Checks.same("bestWindow(15, 3)", Checks.textOf("aabbaba").bestWindow(15, 3), 1);
+        // 11 tenths have the class 1 at the place 1, with the phase 1 at the place 2.
+        Checks.same("bestWindow(11, 2)", Checks.textOf("abcd").bestWindow(11, 2), 0);
         Checks.same("bestWindow(15, 3) from 3 on", Checks.textOf("aabcacb").bestWindow(15, 3), 3);
     }
 
@@ -386,7 +392,10 @@ final class WouldBeBoundaries {
         Checks.window(x, 3, 1);
         Checks.same("of an empty window", x.share(), 1.0);
         x.set(0, 2);
-        Checks.same("of a window of one place", x.share(), 1.0);
+        Checks.same("of a window of one place that is explained", x.share(), 1.0);
+        x.drop(0);
+        Checks.same("of a window of one place that is not", x.share(), 0.0);
+        x.undo();
         x.set(1, 0);
         Checks.same("of the row", x.share(), 0.0);
         x.cut(3);
@@ -567,29 +576,29 @@ final class WouldBeBoundaries {
         digestIs("one character", x, "!");
         x.append(126);
         digestIs("two characters", x, "!~");
-        HiddenPeriods full = TermsBoundaries.typed("ab".repeat(30));
+        HiddenPeriods full = Checks.typed("ab".repeat(30));
         digestIs("60 characters", full, "ab".repeat(30));
         full.clearBuffer();
         digestIs("a buffer that is cleared", full, "");
     }
 
     private static void digestOfFull() {
-        digestIs("what is full", TermsBoundaries.full(), "(ab)2" + "c".repeat(55));
-        HiddenPeriods x = TermsBoundaries.full();
+        digestIs("what is full", UndoBoundaries.full(), "(ab)2" + "c".repeat(55));
+        HiddenPeriods x = UndoBoundaries.full();
         Checks.same("digest() again", x.digest(), x.digest());
-        Checks.same("digest() of an other object", x.digest(), TermsBoundaries.full().digest());
+        Checks.same("digest() of an other object", x.digest(), UndoBoundaries.full().digest());
     }
 
     // ---- all of them
 
     private static void nothingIsChanged() {
-        HiddenPeriods x = TermsBoundaries.full();
+        HiddenPeriods x = UndoBoundaries.full();
         x.explains(30, 3);
         x.best(10, 400);
         x.bestPhase(400);
         x.bestWindow(10, 100);
         x.share();
         x.digest();
-        Checks.alikeToTheirBegins("behind what would be", x, TermsBoundaries.full());
+        Checks.alikeToTheirBegins("behind what would be", x, UndoBoundaries.full());
     }
 }

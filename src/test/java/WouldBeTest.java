@@ -73,7 +73,7 @@ public final class WouldBeTest {
 
     private static void bestRefused() {
         HiddenPeriods x = Checks.rowOf("ab");
-        for (int from : new int[] {9, 401, -1, 0, Integer.MIN_VALUE, Integer.MAX_VALUE}) {
+        for (int from : new int[] {9, 401, -1, 0, -400, Integer.MAX_VALUE}) {
             Checks.refuses(x, "best(" + from + ", 400)", Checks.ARGUMENT, () -> x.best(from, 400));
         }
         for (int to : new int[] {19, 401, -1, Integer.MIN_VALUE, Integer.MAX_VALUE}) {
