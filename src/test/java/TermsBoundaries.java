@@ -28,6 +28,7 @@ final class TermsBoundaries {
         the.sentence("its class is this remainder divided by 10.", TermsBoundaries::classesOfRemainders);
         the.sentence("So a period of 25 tenths has the classes 0, 1 and 2, of which the last one takes half as many places;",
             TermsBoundaries::classesOf25);
+        the.sentence("a drift of tenths moves the places.", TermsBoundaries::drift);
         the.sentence("is how many places of the window have the class and the sign.", TermsBoundaries::countsInTheWindow);
         the.sentence("The sign of a class is the one with the greatest count, of several the lowest one;",
             TermsBoundaries::signOfAClass);
@@ -325,6 +326,18 @@ final class TermsBoundaries {
             y.keep(one[0], 0);
             Checks.same("the classes of " + one[0] + " tenths", y.period(0, 2), one[1]);
         }
+    }
+
+    // 10 * 30 leaves 0, 10 and 21, divided by 30, 29 and 31; 10 * 29 and 10 * 31 leave 0, divided by 29 and 31.
+    private static void drift() {
+        classIs(30, 30, 0, 0);
+        classIs(30, 29, 0, 1);
+        classIs(30, 31, 0, 2);
+        classIs(27, 29, 0, 0);
+        classIs(28, 29, 0, 1);
+        classIs(29, 29, 0, 0);
+        classIs(30, 31, 10, 0);
+        classIs(31, 31, 0, 0);
     }
 
     private static void countsInTheWindow() {
